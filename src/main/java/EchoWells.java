@@ -521,7 +521,7 @@ public final class EchoWells {
             case 0:
                 return well.depth;
             case 1:
-                return timeOnTheWay(well);
+                return well.timeByKinds();
             case 2:
                 return well.things;
             default:
@@ -788,13 +788,14 @@ public final class EchoWells {
         }
 
         int uppermostCoin(int length) {
-            for (int place = 0; place < things; place++) {
-                int thing = thingAt(place);
-                if (kindOf(thing) == COIN_KIND && depthOf(thing) <= length) {
-                    return thing;
+            int coin = NONE;
+            for (int i = 0; i < things; i++) {
+                boolean isReached = kindOf(i) == COIN_KIND && depthOf(i) <= length;
+                if (isReached && (coin == NONE || depthOf(i) < depthOf(coin))) {
+                    coin = i;
                 }
             }
-            return NONE;
+            return coin;
         }
 
         int countOf(int kind) {
