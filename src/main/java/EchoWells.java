@@ -70,7 +70,6 @@ public final class EchoWells {
         noWord = new Letters();
         input = new Letters();
         line = new Letters();
-        isSaved = false;
         fault = NONE;
     }
 
@@ -582,7 +581,6 @@ public final class EchoWells {
 
         Letters() {
             signs = new char[MOST_SIGNS];
-            count = 0;
         }
 
         int size() {
@@ -704,11 +702,6 @@ public final class EchoWells {
             depths = new int[MOST_THINGS];
             values = new int[MOST_THINGS];
             wakes = new boolean[MOST_THINGS];
-            things = 0;
-            depth = 0;
-            bottom = STONE;
-            echoes = 0;
-            grades = 0;
         }
 
         void open(int newDepth, int newBottom) {
@@ -858,12 +851,6 @@ public final class EchoWells {
         private int well;
         private int coins;
 
-        Rope() {
-            length = 0;
-            well = NONE;
-            coins = 0;
-        }
-
         void open(int newLength) {
             length = newLength;
             well = NONE;
@@ -886,7 +873,6 @@ public final class EchoWells {
         Book() {
             numbers = new int[MOST_IN_BOOK * BOOK_NUMBERS];
             latest = new Letters();
-            echoes = 0;
         }
 
         void copy(Book other) {
@@ -1090,9 +1076,6 @@ public final class EchoWells {
 
         Way() {
             letters = new Letters();
-            lost = 0;
-            given = 0;
-            time = 0;
         }
 
         void go(Well well, Letters word) {
@@ -1156,11 +1139,6 @@ public final class EchoWells {
     private static final class Refusal {
         private int number;
         private int detail;
-
-        Refusal() {
-            number = 0;
-            detail = 0;
-        }
 
         void set(int newNumber, int newDetail) {
             number = newNumber;
@@ -1372,9 +1350,6 @@ public final class EchoWells {
             text = new Letters();
             word = new Letters();
             numbers = new int[ORDER_NUMBERS];
-            numberCount = 0;
-            place = 0;
-            order = null;
         }
 
         int countOrders(Letters input) {
@@ -1535,8 +1510,6 @@ public final class EchoWells {
             for (int i = 0; i < worlds.length; i++) {
                 worlds[i] = new World();
             }
-            next = 0;
-            count = 0;
         }
 
         /** Notes the world before a change, which counts as one only when it is kept. */

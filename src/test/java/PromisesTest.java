@@ -149,6 +149,7 @@ public final class PromisesTest {
         Check.is("fill: rope of the lower well", x.ropeOf(0, 1), 0);
         Check.is("fill: rope of the well", x.ropeOf(1, 1), -1);
         Check.is("fill: rope of the higher well", x.ropeOf(2, 1), 1);
+        Check.is("fill: ropes of the lower well", x.wellOf(0, 7), 1);
         Check.is("fill: book of the latest", x.bookOf(0, 0), 2);
         Check.is("fill: book of the one before", x.bookOf(1, 0), 1);
         Check.is("fill: echoes stay", x.account(5), 2);
@@ -158,6 +159,10 @@ public final class PromisesTest {
         }
         Check.is("fill again", x.fill(2), 2);
         Check.is("dig after fill", x.dig(3, 1), 2);
+        say(x, "abc");
+        x.shout(2);
+        x.fill(2);
+        Check.is("dig after fill again", x.dig(3, 1), 2);
         Check.is("dig after fill: things", x.wellOf(2, 2), 0);
         Check.is("dig after fill: echoes", x.wellOf(2, 5), 0);
         Check.is("dig after fill: grades", x.wellOf(2, 6), 0);
@@ -1171,6 +1176,12 @@ public final class PromisesTest {
         y.shout(0);
         y.undo();
         Check.is("undo shout: the word stays empty", y.account(4), 0);
+        feed(y, "rope 9;bind 0 0;coin 0 1 7;fish 0");
+        y.run();
+        y.undo();
+        y.rope(8);
+        Check.is("rope after undo: coins", y.ropeOf(0, 2), 0);
+        Check.is("rope after undo: well", y.ropeOf(0, 1), -1);
     }
 
     // Promise 44
@@ -1216,6 +1227,20 @@ public final class PromisesTest {
         }
         x.save();
         Check.is("restore what was saved later", x.restore(), 0);
+        EchoWells y = new EchoWells();
+        feed(y, "dig 9 w;dig 5 s;rope 5;bind 0 1;shout 0 abc;shout 0 a");
+        y.run();
+        double mean = y.meanGrade();
+        y.save();
+        y.undo();
+        Check.is("another rope in its place", y.rope(9), 0);
+        y.restore();
+        Check.is("restore: length of the rope", y.ropeOf(0, 0), 5);
+        Check.is("restore: well of the rope", y.ropeOf(0, 1), 1);
+        Check.is("restore: grades of the well", y.wellOf(0, 6), 18);
+        Check.is("restore: mean grade", y.meanGrade(), mean);
+        Check.is("restore: first in the book", y.bookOf(0, 1), 1);
+        Check.is("restore: second in the book", y.bookOf(1, 1), 3);
     }
 
     private static void refused(String what, EchoWells x, int number, int detail, Callable<?> call) {
