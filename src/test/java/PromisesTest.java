@@ -949,6 +949,12 @@ public final class PromisesTest {
         fault("shout 0 ab1", 10);
         fault("shout 0 abcdefghi", 16);
         fault("wake;shout 10 a", 12);
+        fault("dig  s", 4);
+        fault("dig 3 ;wake", 6);
+        fault("fill ;wake", 5);
+        fault("frog 1 1 ", 9);
+        fault("frog 1 1 ;wake", 9);
+        fault("shout 0 ;wake", 8);
         EchoWells x = new EchoWells();
         feed(x, "dig 3 s;dig x");
         Check.fails("fault behind a good order", ARGUMENT, x::run);
