@@ -5,6 +5,7 @@ import java.util.Random;
 /** Long runs of mixed calls, wrong ones among them, each answered by EchoWells and by the Model alike. */
 public final class ModelTest {
     private static final int RUNS = 1500;
+    /** What an object answers to later calls is free. */
     private static final int CALLS = 512;
     private static final int[] WILD = {-1, -2, 31, 100, Integer.MIN_VALUE, Integer.MAX_VALUE, 1 << 30, -(1 << 30)};
     /** A method behind how often it is chosen, and what its arguments are. */
@@ -176,6 +177,9 @@ public final class ModelTest {
         for (int i = 0; i < types.length; i++) {
             types[i] = arguments[i] instanceof Integer ? int.class
                 : arguments[i] instanceof Character ? char.class : boolean.class;
+        }
+        if (done == CALLS) {
+            return;
         }
         calls.append(' ').append(name).append(java.util.Arrays.toString(arguments));
         done++;
