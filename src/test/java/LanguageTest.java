@@ -27,6 +27,7 @@ public final class LanguageTest {
         }
         imports(text);
         thrown(text);
+        wordForWord(text, Files.readString(Path.of("../shared/DOC.md")));
         face(EchoWells.class);
         inside(EchoWells.class.getDeclaredClasses());
         Check.finish();
@@ -44,6 +45,19 @@ public final class LanguageTest {
         while (matcher.find()) {
             Check.is("rule 6: " + matcher.group(), matcher.group(1).matches("new [A-Z][A-Za-z]*Exception\\(\\);"), true);
         }
+    }
+
+    /** Every line of the document's face stands in the class, and nothing else there is public. */
+    private static void wordForWord(String text, String document) {
+        int lines = 0;
+        Matcher matcher = Pattern.compile("(?m)^ *(public .*)[;{]$").matcher(document);
+        while (matcher.find()) {
+            String line = matcher.group(1).trim();
+            Check.is("rule 1: " + line, Pattern.compile("(?m)^ *" + Pattern.quote(line + " {") + "$").matcher(text).find(),
+                true);
+            lines++;
+        }
+        Check.is("rule 1: public", text.split("\\bpublic\\b", -1).length - 1, lines);
     }
 
     private static void face(Class<?> type) {
